@@ -1084,7 +1084,7 @@ public final class IndependenceDesk {
             int size = Integer.bitCount(set);
             switch (kind) {
                 case LESS:
-                    return (set & t) == 0 && first.permits(set);
+                    return (set & t) == 0 && first.rankOf(set) == size;
                 case TAKEN:
                     return (set & t) == 0 && first.rankOf(set | t) == first.rankOf(t) + size;
                 case TURNED:
