@@ -753,9 +753,9 @@ public final class IndependenceDesk {
             int size = Integer.bitCount(set);
             int greatest = 0;
             int least = size;
-            for (int bit = 1; bit <= set; bit <<= 1) {
-                if ((set & bit) != 0) {
-                    int without = rankOf(set & ~bit);
+            for (int i = 0; i < MOST_THINGS; i++) {
+                if ((set >> i & 1) != 0) {
+                    int without = rankOf(set & ~(1 << i));
                     greatest = Math.max(greatest, without);
                     least = Math.min(least, without);
                 }
@@ -829,7 +829,7 @@ public final class IndependenceDesk {
                 noteBreach(1, 0, 0);
                 return true;
             }
-            return lacksPart() || lacksExchange(all);
+            return lacksPart() || lacksExchange();
         }
 
         private void noteBreach(int part, int first, int second) {
@@ -870,9 +870,9 @@ public final class IndependenceDesk {
             return NONE;
         }
 
-        private boolean lacksExchange(int all) {
+        private boolean lacksExchange() {
             for (int i = 0; i < size; i++) {
-                int second = leastWithNoneToCome(sets[i], all);
+                int second = leastWithNoneToCome(sets[i]);
                 if (second != NONE) {
                     noteBreach(3, sets[i], second);
                     return true;
@@ -881,8 +881,8 @@ public final class IndependenceDesk {
             return false;
         }
 
-        private int leastWithNoneToCome(int first, int all) {
-            int comers = thingsThatMayCome(first, all);
+        private int leastWithNoneToCome(int first) {
+            int comers = thingsThatMayCome(first);
             for (int i = 0; i < size; i++) {
                 boolean more = Integer.bitCount(sets[i]) > Integer.bitCount(first);
                 if (more && (sets[i] & comers) == 0) {
@@ -892,11 +892,12 @@ public final class IndependenceDesk {
             return NONE;
         }
 
-        private int thingsThatMayCome(int set, int all) {
+        private int thingsThatMayCome(int set) {
             int comers = 0;
-            for (int bit = 1; bit <= all; bit <<= 1) {
-                if ((set & bit) == 0 && fits(set | bit)) {
-                    comers |= bit;
+            for (int i = 0; i < MOST_THINGS; i++) {
+                int with = set | 1 << i;
+                if (with != set && fits(with)) {
+                    comers |= 1 << i;
                 }
             }
             return comers;

@@ -1,3 +1,5 @@
+import java.util.function.IntToLongFunction;
+
 /** Compares answers with what is due and counts the wrong ones. */
 final class Due {
     static final int[] WRONG_NUMBERS = {-1, -2, Integer.MIN_VALUE, Integer.MAX_VALUE};
@@ -19,6 +21,25 @@ final class Due {
 
     static void is(String what, boolean got, boolean want) {
         is(what, got ? 1 : 0, want ? 1 : 0);
+    }
+
+    /** A number from low to high is not refused by this answer, any other one is. */
+    static void justWithin(String what, int low, int high, long refusal, IntToLongFunction call) {
+        int[] inside = {low, high};
+        int[] outside = {low - 1, high + 1, Integer.MIN_VALUE, Integer.MAX_VALUE};
+        for (int number : inside) {
+            is(what + ": " + number + " is not refused", call.applyAsLong(number) != refusal, true);
+        }
+        for (int number : outside) {
+            is(what + ": " + number, call.applyAsLong(number), refusal);
+        }
+    }
+
+    /** A new desk of n things. */
+    static IndependenceDesk desk(int n) {
+        IndependenceDesk desk = new IndependenceDesk();
+        is("fresh " + n, desk.fresh(n), true);
+        return desk;
     }
 
     /** Ends the test: with exit code 1 if any answer was wrong. */

@@ -7,11 +7,14 @@ final class Naive {
     final int n;
     final int all;
     final boolean[] allowed;
+    private final int[] ranks;
 
     Naive(int n) {
         this.n = n;
         this.all = (1 << n) - 1;
         this.allowed = new boolean[1 << n];
+        this.ranks = new int[1 << n];
+        Arrays.fill(ranks, -1);
     }
 
     static Naive of(int n, int kind, long[] numbers) {
@@ -162,8 +165,9 @@ final class Naive {
 
     Naive turned() {
         Naive made = new Naive(n);
+        List<Integer> fullSets = fullSets();
         for (int set = 0; set <= all; set++) {
-            for (int full : fullSets()) {
+            for (int full : fullSets) {
                 made.allowed[set] |= (full & set) == 0;
             }
         }
@@ -180,7 +184,15 @@ final class Naive {
         return made;
     }
 
+    /** The rank, kept once it was searched for: so ask only when all that is allowed is known. */
     int rank(int set) {
+        if (ranks[set] < 0) {
+            ranks[set] = mostWithin(set);
+        }
+        return ranks[set];
+    }
+
+    private int mostWithin(int set) {
         int best = 0;
         for (int part = set; part > 0; part = (part - 1) & set) {
             if (allowed[part]) {
@@ -349,6 +361,10 @@ final class Naive {
                 return true;
             }
             heaps[j] = before;
+            if (before == 0) {
+                // All heaps behind it are empty as well: what fails here fails there.
+                return false;
+            }
         }
         return false;
     }

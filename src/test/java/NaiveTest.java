@@ -6,6 +6,7 @@ import java.util.Random;
 /** Promises 9 to 31 on many rules of every kind, against a search by the definitions. */
 public final class NaiveTest {
     private static final int ROUNDS = 400;
+    private static final int LARGE_ROUNDS = 40;
     private final Random random = new Random(20261116);
     private final IndependenceDesk desk = new IndependenceDesk();
     private final List<Naive> rules = new ArrayList<>();
@@ -18,7 +19,9 @@ public final class NaiveTest {
         for (int round = 0; round < ROUNDS; round++) {
             test.round(1 + round % 7);
         }
-        test.round(8);
+        for (int round = 0; round < LARGE_ROUNDS; round++) {
+            test.round(8 + round % 5);
+        }
         Due.done();
     }
 
@@ -71,7 +74,7 @@ public final class NaiveTest {
     private long[] numbersOf(int kind) {
         switch (kind) {
             case 1:
-                return new long[] {random.nextInt(n + 2), 99};
+                return new long[] {random.nextInt(Math.min(n + 2, 13)), 99};
             case 2:
                 return parts();
             case 3:
