@@ -14,28 +14,20 @@ public final class DealEdgeTest {
         Due.done();
     }
 
-    private static IndependenceDesk even(int n, int... ks) {
-        IndependenceDesk desk = Due.desk(n);
-        for (int i = 0; i < ks.length; i++) {
-            Due.is("rule", Due.rule(desk, 1, ks[i]), i);
-        }
-        return desk;
-    }
-
     private static void rulesAndThings() {
         IndependenceDesk none = Due.desk(3);
         Due.is("26: no rules", none.fewest(0), -1);
         Due.is("27: no rules", none.dealt(0, 0), -1);
         Due.is("28: no rules", none.crowd(0), -1);
         Due.is("29: no rules", none.pack(0), -1);
-        IndependenceDesk desk = even(3, 1, 2, 0);
+        IndependenceDesk desk = Due.even(3, 1, 2, 0);
         Due.justWithin("26: a rule", 0, 2, -1, rule -> desk.fewest(rule));
         Due.justWithin("27: a rule", 0, 2, -1, rule -> desk.dealt(rule, 0));
         Due.justWithin("28: a rule", 0, 2, -1, rule -> desk.crowd(rule));
         Due.justWithin("29: a rule", 0, 2, -1, rule -> desk.pack(rule));
         int[] sizes = {1, 8, 12};
         for (int n : sizes) {
-            IndependenceDesk other = even(n, 1, 0);
+            IndependenceDesk other = Due.even(n, 1, 0);
             Due.justWithin("27: a thing", 0, n - 1, -1, thing -> other.dealt(0, thing));
             Due.justWithin("27: a thing that cannot be dealt", 0, n - 1, -1, thing -> other.dealt(1, thing));
         }
@@ -75,14 +67,14 @@ public final class DealEdgeTest {
     }
 
     private static void dealOfEven() {
-        IndependenceDesk desk = even(12, 1, 2, 5, 11, 12);
+        IndependenceDesk desk = Due.even(12, 1, 2, 5, 11, 12);
         int[] ks = {1, 2, 5, 11, 12};
         for (int rule = 0; rule < ks.length; rule++) {
             for (int thing = 0; thing < 12; thing++) {
                 Due.is("27: by " + ks[rule] + ", thing " + thing, desk.dealt(rule, thing), thing / ks[rule]);
             }
         }
-        Due.is("27: one thing", even(1, 1).dealt(0, 0), 0);
+        Due.is("27: one thing", Due.even(1, 1).dealt(0, 0), 0);
     }
 
     /** Where a thing may not get the least number that is free for it. */
@@ -111,7 +103,7 @@ public final class DealEdgeTest {
         int[][] cases = {{12, 12, 1}, {12, 11, 4095}, {11, 10, 2047}, {12, 6, 127}, {12, 5, 2047}, {12, 4, 511},
             {12, 1, 4095}, {1, 1, 1}, {2, 1, 3}, {3, 2, 7}, {4, 2, 7}, {5, 2, 31}, {6, 2, 31}};
         for (int[] one : cases) {
-            Due.is("28: " + one[0] + " things by " + one[1], even(one[0], one[1]).crowd(0), one[2]);
+            Due.is("28: " + one[0] + " things by " + one[1], Due.even(one[0], one[1]).crowd(0), one[2]);
         }
     }
 
@@ -128,7 +120,7 @@ public final class DealEdgeTest {
     private static void packOfRank0() {
         int[] sizes = {1, 8, 12};
         for (int n : sizes) {
-            IndependenceDesk desk = even(n, 0, 1);
+            IndependenceDesk desk = Due.even(n, 0, 1);
             Due.is("29: rank 0", desk.pack(0), -2);
             Due.is("29: rank 1", desk.pack(1), n);
             Due.is("one thing is allowed", Due.rule(desk, 6, last(n)), 2);

@@ -42,6 +42,15 @@ final class Due {
         return desk;
     }
 
+    /** A new desk of n things whose rules 0, 1 and so on allow all sets of at most so many. */
+    static IndependenceDesk even(int n, int... ks) {
+        IndependenceDesk desk = desk(n);
+        for (int i = 0; i < ks.length; i++) {
+            is("even", rule(desk, 1, ks[i]), i);
+        }
+        return desk;
+    }
+
     /** Ends the test: with exit code 1 if any answer was wrong. */
     static void done() {
         System.out.println(asked + " answers, " + wrong + " wrong");

@@ -14,6 +14,7 @@ public final class LawEdgeTest {
         leastPair();
         asManyThingsNeedNotCome();
         fullRow();
+        fullRowBrokenByTheGreatest();
         whatIs0To2();
         latest();
         Due.done();
@@ -40,14 +41,16 @@ public final class LawEdgeTest {
     }
 
     private static void holds(int n, long... sets) {
-        IndependenceDesk desk = Due.desk(n);
-        Due.is("9: " + Arrays.toString(sets), Due.rule(desk, 0, told(sets)), 0);
-        for (int set = 0; set < 1 << n; set++) {
-            final int asked = set;
-            boolean isTold = Arrays.stream(sets).anyMatch(s -> s == asked);
-            Due.is("terms 2: just these, " + set, desk.allows(0, set), isTold ? 1 : 0);
+        for (int from = 0; from < 1 << n; from += 256) {
+            IndependenceDesk desk = Due.desk(n);
+            Due.is("9: " + Arrays.toString(sets), Due.rule(desk, 0, told(sets)), 0);
+            for (int set = from; set < Math.min(from + 256, 1 << n); set++) {
+                final int asked = set;
+                boolean isTold = Arrays.stream(sets).anyMatch(s -> s == asked);
+                Due.is("terms 2: just these, " + set, desk.allows(0, set), isTold ? 1 : 0);
+            }
+            isBroken(desk, 0, 0, 0);
         }
-        isBroken(desk, 0, 0, 0);
     }
 
     private static void howMany() {
@@ -141,8 +144,8 @@ public final class LawEdgeTest {
         holds(12, 0, 1, 2048, 2049);
     }
 
-    /** One of each of four parts of 1, 2, 4 and 4 things: just 150 sets. */
-    private static void fullRow() {
+    /** One of each of four parts of 1, 2, 4 and 4 things, without thing 11: just 150 sets. */
+    private static List<Long> setsOfFourParts() {
         int[] parts = {1, 6, 0x78, 0x780};
         List<Long> sets = new ArrayList<>();
         for (int set = 0; set < 4096; set++) {
@@ -154,16 +157,34 @@ public final class LawEdgeTest {
                 sets.add((long) set);
             }
         }
-        long[] all = sets.stream().mapToLong(Long::longValue).toArray();
-        Due.is("as many as can be told", all.length, 150);
-        holds(12, all);
+        Due.is("as many as can be told", sets.size(), 150);
+        return sets;
+    }
+
+    private static long[] numbers(List<Long> sets) {
+        return sets.stream().mapToLong(Long::longValue).toArray();
+    }
+
+    private static void fullRow() {
+        List<Long> sets = setsOfFourParts();
+        holds(12, numbers(sets));
         for (int leftOut = 0; leftOut < 150; leftOut += 10) {
             List<Long> fewer = new ArrayList<>(sets);
             fewer.remove(leftOut);
-            long[] these = fewer.stream().mapToLong(Long::longValue).toArray();
+            long[] these = numbers(fewer);
             int[] breach = Naive.of(12, 0, told(these)).breach();
             breaks(12, breach[0], breach[1], breach[2], these);
         }
+    }
+
+    /** Of 150 unlike sets, told the greatest first or last, just the greatest lacks a part. */
+    private static void fullRowBrokenByTheGreatest() {
+        List<Long> sets = setsOfFourParts();
+        sets.remove(149);
+        sets.add(2049L);
+        breaks(12, 2, 2049, 2048, numbers(sets));
+        java.util.Collections.reverse(sets);
+        breaks(12, 2, 2049, 2048, numbers(sets));
     }
 
     private static void whatIs0To2() {

@@ -9,9 +9,10 @@ public final class LimitsTest {
 
     public static void main(String[] args) {
         LimitsTest test = new LimitsTest();
-        for (int run = 0; run < 300; run++) {
+        for (int run = 0; run < 2000; run++) {
             test.desk = new IndependenceDesk();
-            for (int call = 0; call < 512; call++) {
+            // Each step is five calls of the 512, with those that look at what has changed.
+            for (int step = 0; step < 100; step++) {
                 test.callOnce();
             }
         }

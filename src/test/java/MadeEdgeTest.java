@@ -26,25 +26,17 @@ public final class MadeEdgeTest {
             rule -> desk.turn(rule), rule -> desk.join(rule, 0), rule -> desk.join(0, rule)};
     }
 
-    private static IndependenceDesk even(int n, int... ks) {
-        IndependenceDesk desk = Due.desk(n);
-        for (int i = 0; i < ks.length; i++) {
-            Due.is("rule", Due.rule(desk, 1, ks[i]), i);
-        }
-        return desk;
-    }
-
     private static void rulesThatThereAre() {
         for (int way = 0; way < 5; way++) {
             IndependenceDesk none = Due.desk(3);
             Due.is(NAMES[way] + " of none", ways(none, 0)[way].applyAsInt(0), -2);
             int[] wrong = {-1, 2, 24, Integer.MIN_VALUE, Integer.MAX_VALUE};
             for (int rule : wrong) {
-                IndependenceDesk desk = even(3, 1, 2);
+                IndependenceDesk desk = Due.even(3, 1, 2);
                 Due.is(NAMES[way] + " of " + rule, ways(desk, 1)[way].applyAsInt(rule), -2);
                 Due.is("no rule is made", desk.count(1), 2);
             }
-            IndependenceDesk desk = even(3, 1, 2);
+            IndependenceDesk desk = Due.even(3, 1, 2);
             Due.is(NAMES[way] + " of the first", ways(desk, 1)[way].applyAsInt(0), 2);
             Due.is(NAMES[way] + " of the last", ways(desk, 1)[way].applyAsInt(1), 3);
         }
@@ -53,7 +45,7 @@ public final class MadeEdgeTest {
     private static void setsFrom0ToAll() {
         for (int n = 1; n <= 12; n++) {
             int all = (1 << n) - 1;
-            IndependenceDesk desk = even(n, 1);
+            IndependenceDesk desk = Due.even(n, 1);
             Due.justWithin("10: t of " + n, 0, all, -2, t -> desk.less(0, t));
             Due.justWithin("11: t of " + n, 0, all, -2, t -> desk.take(0, t));
             Due.is("four rules were made", desk.count(1), 5);
@@ -62,7 +54,7 @@ public final class MadeEdgeTest {
 
     private static void atMost24() {
         for (int way = 0; way < 5; way++) {
-            IndependenceDesk desk = even(2, 1);
+            IndependenceDesk desk = Due.even(2, 1);
             for (int i = 1; i < 24; i++) {
                 Due.is(NAMES[way] + ", rule " + i, ways(desk, 0)[way].applyAsInt(0), i);
             }
@@ -74,7 +66,7 @@ public final class MadeEdgeTest {
     private static void threeWithinOneAnother() {
         for (int way = 0; way < 5; way++) {
             for (int inner = 0; inner < 5; inner++) {
-                IndependenceDesk desk = even(3, 1);
+                IndependenceDesk desk = Due.even(3, 1);
                 Due.is("the second", ways(desk, 1)[inner].applyAsInt(0), 1);
                 Due.is("15: two within one another", desk.look(1, 5), 2);
                 Due.is("the third", ways(desk, 1)[inner].applyAsInt(1), 2);
@@ -87,7 +79,7 @@ public final class MadeEdgeTest {
     }
 
     private static void joinCountsTheDeeper() {
-        IndependenceDesk desk = even(3, 1);
+        IndependenceDesk desk = Due.even(3, 1);
         Due.is("the second", desk.turn(0), 1);
         Due.is("the third", desk.turn(1), 2);
         int[][] fine = {{0, 0, 2}, {0, 1, 3}, {1, 0, 3}, {1, 1, 3}};
@@ -102,7 +94,7 @@ public final class MadeEdgeTest {
     }
 
     private static void firstRefusal() {
-        IndependenceDesk desk = even(3, 1);
+        IndependenceDesk desk = Due.even(3, 1);
         Due.is("the second", desk.turn(0), 1);
         Due.is("the third", desk.turn(1), 2);
         Due.is("10: no set, too deep", desk.less(2, 8), -2);
@@ -126,7 +118,7 @@ public final class MadeEdgeTest {
         int[] sizes = {3, 12};
         for (int n : sizes) {
             int all = (1 << n) - 1;
-            IndependenceDesk desk = even(n, 0, 2, n);
+            IndependenceDesk desk = Due.even(n, 0, 2, n);
             Due.is("10: less nothing is the same", desk.same(1, desk.less(1, 0)), 1);
             Due.is("10: less all is the empty set", desk.same(0, desk.less(2, all)), 1);
             Due.is("11: nothing taken is the same", desk.same(1, desk.take(1, 0)), 1);
@@ -181,7 +173,7 @@ public final class MadeEdgeTest {
     private static void lookAtRulesThatThereAre() {
         IndependenceDesk none = Due.desk(3);
         Due.is("15: no rule yet", none.look(0, 0), -1);
-        IndependenceDesk desk = even(3, 1, 2);
+        IndependenceDesk desk = Due.even(3, 1, 2);
         Due.justWithin("15: a rule", 0, 1, -1, rule -> desk.look(rule, 0));
         Due.is("joined", desk.join(0, 1), 2);
         Due.justWithin("15: what", 0, 5, -1, what -> desk.look(2, what));
@@ -189,14 +181,14 @@ public final class MadeEdgeTest {
     }
 
     private static void lookAtRanksAndSets() {
-        IndependenceDesk desk = even(12, 0, 1, 11, 12);
+        IndependenceDesk desk = Due.even(12, 0, 1, 11, 12);
         int[] ranks = {0, 1, 11, 12};
         int[] sets = {1, 13, 4095, 4096};
         for (int rule = 0; rule < 4; rule++) {
             Due.is("15: rank of all", desk.look(rule, 1), ranks[rule]);
             Due.is("15: sets", desk.look(rule, 2), sets[rule]);
         }
-        IndependenceDesk one = even(1, 0, 1, 12);
+        IndependenceDesk one = Due.even(1, 0, 1, 12);
         int[] few = {1, 2, 2};
         for (int rule = 0; rule < 3; rule++) {
             Due.is("15: rank of one thing", one.look(rule, 1), few[rule] - 1);
@@ -205,7 +197,7 @@ public final class MadeEdgeTest {
     }
 
     private static void lookAtWhatItIsMadeOf() {
-        IndependenceDesk desk = even(3, 1, 2);
+        IndependenceDesk desk = Due.even(3, 1, 2);
         int[][] due = {{1, 1, 4, -1, -1, 1}, {1, 2, 7, -1, -1, 1}, {7, 1, 3, 0, -1, 2}, {8, 1, 3, 1, -1, 2},
             {9, 2, 7, 0, -1, 2}, {10, 3, 8, 0, 1, 2}, {10, 3, 8, 1, 0, 2}, {10, 2, 7, 0, 0, 2}, {9, 0, 1, 5, -1, 3}};
         Due.is("less", desk.less(0, 1), 2);

@@ -3,7 +3,11 @@ import java.util.Arrays;
 import java.util.List;
 import java.util.Random;
 
-/** Promises 9 to 31 on many rules of every kind, against a search by the definitions. */
+/**
+ * Promises 9 to 31 on many rules of every kind, against a search by the definitions. One desk bears
+ * all rounds, far more than the 512 calls that are promised, so that whatever one round leaves
+ * behind would show in the next.
+ */
 public final class NaiveTest {
     private static final int ROUNDS = 400;
     private static final int LARGE_ROUNDS = 40;

@@ -16,16 +16,8 @@ public final class PairsEdgeTest {
         Due.done();
     }
 
-    private static IndependenceDesk even(int n, int... ks) {
-        IndependenceDesk desk = Due.desk(n);
-        for (int i = 0; i < ks.length; i++) {
-            Due.is("rule", Due.rule(desk, 1, ks[i]), i);
-        }
-        return desk;
-    }
-
     private static void rulesThatThereAre() {
-        IndependenceDesk desk = even(3, 1, 2);
+        IndependenceDesk desk = Due.even(3, 1, 2);
         String[] names = {"22: both", "23: split", "24: most", "25: three", "25: three, third", "30: same"};
         IntBinaryOperator[] questions = {desk::both, desk::split, (a, b) -> desk.most(a, b, 1),
             (a, b) -> desk.three(a, b, 0), (a, b) -> desk.three(0, b, a), desk::same};
@@ -46,7 +38,7 @@ public final class PairsEdgeTest {
     private static void bothOfNothingAndOfAll() {
         int[] sizes = {1, 8, 12};
         for (int n : sizes) {
-            IndependenceDesk desk = even(n, 0, n);
+            IndependenceDesk desk = Due.even(n, 0, n);
             Due.is("22: nothing and nothing", desk.both(0, 0), 0);
             Due.is("22: nothing and all", desk.both(0, 1), 0);
             Due.is("22: all and nothing", desk.both(1, 0), 0);
@@ -55,7 +47,7 @@ public final class PairsEdgeTest {
     }
 
     private static void bothIsTheLeastNumber() {
-        IndependenceDesk desk = even(12, 1, 11, 12);
+        IndependenceDesk desk = Due.even(12, 1, 11, 12);
         Due.is("22: one thing", desk.both(0, 2), 1);
         Due.is("22: eleven things", desk.both(1, 2), 2047);
         IndependenceDesk four = Due.desk(4);
@@ -73,13 +65,13 @@ public final class PairsEdgeTest {
         int[] sizes = {1, 8, 12};
         for (int n : sizes) {
             int all = (1 << n) - 1;
-            IndependenceDesk desk = even(n, 0, n);
+            IndependenceDesk desk = Due.even(n, 0, n);
             Due.is("23: nothing and all", desk.split(0, 1), all);
             Due.is("23: all and nothing", desk.split(1, 0), 0);
             Due.is("23: nothing and nothing", desk.split(0, 0), 0);
             Due.is("23: all and all", desk.split(1, 1), 0);
         }
-        IndependenceDesk desk = even(12, 5, 6);
+        IndependenceDesk desk = Due.even(12, 5, 6);
         Due.is("23: all by the lesser", desk.split(0, 1), 4095);
         Due.is("23: none, the other way", desk.split(1, 0), 0);
         Due.is("23: alike, none", desk.split(0, 0), 0);
@@ -109,7 +101,7 @@ public final class PairsEdgeTest {
     }
 
     private static void mostOfK() {
-        IndependenceDesk desk = even(12, 0, 11, 12);
+        IndependenceDesk desk = Due.even(12, 0, 11, 12);
         for (int i = 0; i < 12; i++) {
             desk.weight(i, 1 << i);
         }
@@ -122,12 +114,12 @@ public final class PairsEdgeTest {
         Due.is("24: twelve", desk.most(2, 2, 12), 4095);
         Due.is("24: twelve of eleven", desk.most(1, 2, 12), -1);
         Due.is("24: twelve of eleven, the other way", desk.most(2, 1, 12), -1);
-        IndependenceDesk one = even(1, 1);
+        IndependenceDesk one = Due.even(1, 1);
         Due.justWithin("24: k of one thing", 0, 1, -1, k -> one.most(0, 0, k));
     }
 
     private static void mostOfNoWeightAndOfMost() {
-        IndependenceDesk desk = even(12, 12);
+        IndependenceDesk desk = Due.even(12, 12);
         for (int i = 0; i < 12; i++) {
             desk.weight(i, 0);
         }
@@ -156,7 +148,7 @@ public final class PairsEdgeTest {
     private static void threeOfNothingAndOfAll() {
         int[] sizes = {1, 8, 12};
         for (int n : sizes) {
-            IndependenceDesk desk = even(n, 0, 1, n);
+            IndependenceDesk desk = Due.even(n, 0, 1, n);
             Due.is("25: all", desk.three(2, 2, 2), n);
             Due.is("25: one, by the first", desk.three(1, 2, 2), 1);
             Due.is("25: one, by the second", desk.three(2, 1, 2), 1);
@@ -166,12 +158,12 @@ public final class PairsEdgeTest {
     }
 
     private static void sameButForOneSet() {
-        IndependenceDesk desk = even(12, 11, 12, 12, 0);
+        IndependenceDesk desk = Due.even(12, 11, 12, 12, 0);
         Due.is("30: but for all", desk.same(0, 1), 0);
         Due.is("30: but for all, the other way", desk.same(1, 0), 0);
         Due.is("30: alike", desk.same(1, 2), 1);
         Due.is("30: itself", desk.same(3, 3), 1);
-        IndependenceDesk four = even(4, 2);
+        IndependenceDesk four = Due.even(4, 2);
         for (int set = 0; set < 16; set++) {
             if (Integer.bitCount(set) == 2) {
                 long[] numbers = new long[11];
@@ -186,7 +178,7 @@ public final class PairsEdgeTest {
                 Due.is("30: but for " + set, four.same(0, told), 0);
             }
         }
-        IndependenceDesk one = even(1, 0, 1, 12);
+        IndependenceDesk one = Due.even(1, 0, 1, 12);
         Due.is("30: of one thing", one.same(0, 1), 0);
         Due.is("30: of one thing, alike", one.same(1, 2), 1);
     }

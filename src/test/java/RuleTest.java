@@ -15,15 +15,9 @@ public final class RuleTest {
         Due.done();
     }
 
-    private static IndependenceDesk desk(int n) {
-        IndependenceDesk desk = new IndependenceDesk();
-        Due.is("fresh", desk.fresh(n), true);
-        return desk;
-    }
-
     /** Every row that is as these numbers, but shorter, ends ahead of a number. */
     private static void needsAll(int n, int kind, long... numbers) {
-        IndependenceDesk desk = desk(n);
+        IndependenceDesk desk = Due.desk(n);
         for (int size = 0; size < numbers.length; size++) {
             long[] cut = java.util.Arrays.copyOf(numbers, size);
             Due.is("kind " + kind + " with " + size + " numbers", Due.rule(desk, kind, cut), -6);
@@ -37,7 +31,7 @@ public final class RuleTest {
 
     /** A row whose last number, number i, is refused by -4 (though more would have to follow). */
     private static void notAsTold(int n, int kind, int i, long wrong, long... numbers) {
-        IndependenceDesk desk = desk(n);
+        IndependenceDesk desk = Due.desk(n);
         long[] changed = java.util.Arrays.copyOf(numbers, i + 1);
         changed[i] = wrong;
         Due.is("kind " + kind + ", number " + i + " is " + wrong, Due.rule(desk, kind, changed), -4);
@@ -45,7 +39,7 @@ public final class RuleTest {
     }
 
     private static void refusalsInOrder() {
-        IndependenceDesk desk = desk(3);
+        IndependenceDesk desk = Due.desk(3);
         for (int wrong : Due.WRONG_NUMBERS) {
             Due.is("slot " + wrong, desk.rule(1, wrong), -2);
             Due.is("kind " + wrong, desk.rule(wrong, 0), -2);
@@ -71,7 +65,7 @@ public final class RuleTest {
         notAsTold(3, 0, 2, 8, 5, 0);
         notAsTold(3, 0, 1, -1, 5);
         notAsTold(3, 0, 1, 1L << 32, 5);
-        IndependenceDesk desk = desk(3);
+        IndependenceDesk desk = Due.desk(3);
         Due.is("told twice is told", Due.rule(desk, 0, 4, 2, 0, 2, 0), 0);
         Due.is("two sets", desk.look(0, 2), 2);
         Due.is("just these", desk.allows(0, 2), 1);
@@ -86,7 +80,7 @@ public final class RuleTest {
         needsAll(5, 1, 3);
         notAsTold(5, 1, 0, 13);
         notAsTold(5, 1, 0, -1);
-        IndependenceDesk desk = desk(12);
+        IndependenceDesk desk = Due.desk(12);
         Due.is("k 12", Due.rule(desk, 1, 12), 0);
         Due.is("all sets", desk.look(0, 2), 4096);
         Due.is("k 0", Due.rule(desk, 1, 0), 1);
@@ -101,7 +95,7 @@ public final class RuleTest {
         notAsTold(3, 2, 2, -1, 0, 0);
         notAsTold(3, 2, 3, 13, 0, 0, 0);
         notAsTold(3, 2, 4, -1, 0, 0, 1, 0);
-        IndependenceDesk desk = desk(4);
+        IndependenceDesk desk = Due.desk(4);
         Due.is("parts", Due.rule(desk, 2, 11, 0, 11, 11, 0, 0, 0, 0, 0, 0, 0, 0, 0, 0, 0, 2), 0);
         Due.is("two of part 11", desk.allows(0, 0b1001), 1);
         Due.is("three of part 11", desk.allows(0, 0b1101), 0);
@@ -115,7 +109,7 @@ public final class RuleTest {
         notAsTold(4, 3, 1, 16, 2);
         notAsTold(4, 3, 2, 13, 2, 3);
         notAsTold(4, 3, 3, -1, 2, 3, 1);
-        IndependenceDesk desk = desk(4);
+        IndependenceDesk desk = Due.desk(4);
         Due.is("none", Due.rule(desk, 3, 0), 0);
         Due.is("all are allowed", desk.look(0, 2), 16);
         Due.is("alike, within and apart", Due.rule(desk, 3, 5, 3, 1, 3, 2, 12, 1, 15, 2, 0, 0), 1);
@@ -134,7 +128,7 @@ public final class RuleTest {
         needsAll(3, 4, 0, 1, 1, 15, 15, 0);
         notAsTold(3, 4, 0, 16);
         notAsTold(3, 4, 5, -1, 0, 1, 1, 2, 2);
-        IndependenceDesk desk = desk(5);
+        IndependenceDesk desk = Due.desk(5);
         Due.is("edges", Due.rule(desk, 4, 3, 3, 0, 15, 15, 0, 0, 1, 1, 15), 0);
         Due.is("from an end to itself", desk.allows(0, 0b00001), 0);
         Due.is("two from the same to the same", desk.allows(0, 0b00110), 0);
@@ -147,7 +141,7 @@ public final class RuleTest {
         needsAll(2, 5, 5, 2, 1, 4, 4, 1);
         long[] primes = {2, 3, 5, 7};
         for (long prime : primes) {
-            IndependenceDesk desk = desk(3);
+            IndependenceDesk desk = Due.desk(3);
             Due.is("prime " + prime, Due.rule(desk, 5, prime, 2, 1, 0, 0, 1, prime - 1, prime - 1), 0);
             Due.is("any two", desk.look(0, 2), 7);
             notAsTold(3, 5, 2, prime, prime, 1);
@@ -159,7 +153,7 @@ public final class RuleTest {
         }
         notAsTold(3, 5, 1, 0, 7);
         notAsTold(3, 5, 1, 7, 7);
-        IndependenceDesk desk = desk(2);
+        IndependenceDesk desk = Due.desk(2);
         Due.is("prime 4, then an end", Due.rule(desk, 5, 4), -4);
         Due.is("a row of zeros", Due.rule(desk, 5, 7, 1, 0, 6), 0);
         Due.is("is not free", desk.allows(0, 1), 0);
@@ -169,7 +163,6 @@ public final class RuleTest {
 
     /** Rows 1, x, x*x .. of seven unlike x modulo 7: any six of them are free. */
     private static void widestRows() {
-        IndependenceDesk desk = desk(12);
         long[] numbers = new long[2 + 12 * 6];
         numbers[0] = 7;
         numbers[1] = 6;
@@ -180,10 +173,13 @@ public final class RuleTest {
                 power = power * (i % 7) % 7;
             }
         }
-        Due.is("widest rows", Due.rule(desk, 5, numbers), 0);
-        for (int set = 0; set < 4096; set++) {
-            int unlike = (set | set >> 7) & 127;
-            Due.is("rank of " + set, desk.rank(0, set), Math.min(6, Integer.bitCount(unlike)));
+        for (int from = 0; from < 4096; from += 256) {
+            IndependenceDesk desk = Due.desk(12);
+            Due.is("widest rows", Due.rule(desk, 5, numbers), 0);
+            for (int set = from; set < from + 256; set++) {
+                int unlike = (set | set >> 7) & 127;
+                Due.is("rank of " + set, desk.rank(0, set), Math.min(6, Integer.bitCount(unlike)));
+            }
         }
     }
 
@@ -191,7 +187,7 @@ public final class RuleTest {
         needsAll(3, 6, 1, 4095, 0);
         notAsTold(3, 6, 0, 4096);
         notAsTold(3, 6, 2, -1, 1, 1);
-        IndependenceDesk desk = desk(4);
+        IndependenceDesk desk = Due.desk(4);
         Due.is("places", Due.rule(desk, 6, 3, 3, 2049, 0), 0);
         Due.is("three have one", desk.allows(0, 0b0111), 1);
         Due.is("one has none", desk.allows(0, 0b1000), 0);
@@ -201,7 +197,7 @@ public final class RuleTest {
     }
 
     private static void rulesNeverChange() {
-        IndependenceDesk desk = desk(4);
+        IndependenceDesk desk = Due.desk(4);
         Due.is("a rule", Due.rule(desk, 1, 1), 0);
         Due.is("another of the slot", Due.rule(desk, 1, 3), 1);
         Due.is("edges", Due.rule(desk, 4, 0, 1, 0, 1, 2, 3, 2, 3), 2);
@@ -216,7 +212,7 @@ public final class RuleTest {
     }
 
     private static void broken() {
-        IndependenceDesk desk = desk(3);
+        IndependenceDesk desk = Due.desk(3);
         isBroken(desk, 0, 0, 0);
         Due.is("none told", Due.rule(desk, 0, 0), -9);
         isBroken(desk, 1, 0, 0);
@@ -253,7 +249,7 @@ public final class RuleTest {
     }
 
     private static void look() {
-        IndependenceDesk desk = desk(2);
+        IndependenceDesk desk = Due.desk(2);
         long[][] numbers = {{1, 0}, {1}, {0, 0, 1}, {0}, {0, 1, 1, 2}, {2, 1, 1, 1}, {1, 2}};
         int[] ranks = {0, 1, 1, 2, 2, 1, 2};
         int[] sets = {1, 3, 3, 4, 4, 3, 4};

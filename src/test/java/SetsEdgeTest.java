@@ -29,18 +29,10 @@ public final class SetsEdgeTest {
             (rule, set) -> desk.exchange(rule, set, 0)};
     }
 
-    private static IndependenceDesk even(int n, int... ks) {
-        IndependenceDesk desk = Due.desk(n);
-        for (int i = 0; i < ks.length; i++) {
-            Due.is("rule", Due.rule(desk, 1, ks[i]), i);
-        }
-        return desk;
-    }
-
     private static void setsFrom0ToAll() {
         for (int n = 1; n <= 12; n++) {
             int all = (1 << n) - 1;
-            IndependenceDesk desk = even(n, 12);
+            IndependenceDesk desk = Due.even(n, 12);
             for (int q = 0; q < 4; q++) {
                 IntBinaryOperator question = questions(desk)[q];
                 Due.justWithin(NAMES[q] + " of " + n, 0, all, -1, set -> question.applyAsInt(0, set));
@@ -52,7 +44,7 @@ public final class SetsEdgeTest {
 
     private static void rulesThatThereAre() {
         IndependenceDesk none = Due.desk(2);
-        IndependenceDesk desk = even(2, 0, 1);
+        IndependenceDesk desk = Due.even(2, 0, 1);
         for (int q = 0; q < 5; q++) {
             Due.is(NAMES[q] + ", no rules", questions(none)[q].applyAsInt(0, 0), -1);
             IntBinaryOperator question = questions(desk)[q];
@@ -62,7 +54,7 @@ public final class SetsEdgeTest {
     }
 
     private static void allowsUpToTheBound() {
-        IndependenceDesk desk = even(12, 0, 1, 6, 11, 12);
+        IndependenceDesk desk = Due.even(12, 0, 1, 6, 11, 12);
         int[] ks = {0, 1, 6, 11, 12};
         for (int rule = 0; rule < ks.length; rule++) {
             for (int size = 0; size <= 12; size++) {
@@ -74,7 +66,7 @@ public final class SetsEdgeTest {
     }
 
     private static void rankOfTheEmptySetAndOfAll() {
-        IndependenceDesk desk = even(12, 0, 1, 6, 11, 12);
+        IndependenceDesk desk = Due.even(12, 0, 1, 6, 11, 12);
         int[] ks = {0, 1, 6, 11, 12};
         for (int rule = 0; rule < ks.length; rule++) {
             for (int size = 0; size <= 12; size++) {
@@ -86,13 +78,13 @@ public final class SetsEdgeTest {
     }
 
     private static void spanHasItsOwn() {
-        IndependenceDesk desk = even(4, 0, 2, 4);
+        IndependenceDesk desk = Due.even(4, 0, 2, 4);
         for (int set = 0; set < 16; set++) {
             Due.is("18: none ever makes more", desk.span(0, set), 15);
             Due.is("18: two make all", desk.span(1, set), Integer.bitCount(set) < 2 ? set : 15);
             Due.is("18: just its own", desk.span(2, set), set);
         }
-        IndependenceDesk twelve = even(12, 11, 12);
+        IndependenceDesk twelve = Due.even(12, 11, 12);
         Due.is("18: eleven of twelve", twelve.span(0, 2047), 4095);
         Due.is("18: ten of twelve", twelve.span(0, 1023), 1023);
         Due.is("18: of all", twelve.span(1, 4095), 4095);
@@ -108,7 +100,7 @@ public final class SetsEdgeTest {
     }
 
     private static void ringOfAnAllowedSet() {
-        IndependenceDesk desk = even(4, 0, 2, 4);
+        IndependenceDesk desk = Due.even(4, 0, 2, 4);
         for (int set = 0; set < 16; set++) {
             Due.is("19: all are allowed", desk.ring(2, set), 0);
             Due.is("19: the least thing alone", desk.ring(0, set), set & -set);
@@ -131,7 +123,7 @@ public final class SetsEdgeTest {
     }
 
     private static void ringOfAllTwelve() {
-        IndependenceDesk desk = even(12, 11, 12, 0);
+        IndependenceDesk desk = Due.even(12, 11, 12, 0);
         Due.is("19: all twelve", desk.ring(0, 4095), 4095);
         Due.is("19: eleven of them", desk.ring(0, 2047), 0);
         Due.is("19: none", desk.ring(1, 4095), 0);
@@ -141,10 +133,10 @@ public final class SetsEdgeTest {
     private static void exchangeOfThings() {
         int[] sizes = {1, 8, 12};
         for (int n : sizes) {
-            IndependenceDesk desk = even(n, 1);
+            IndependenceDesk desk = Due.even(n, 1);
             Due.justWithin("20: a thing of " + n, 0, n - 1, -1, thing -> desk.exchange(0, 0, thing));
         }
-        IndependenceDesk desk = even(3, 2);
+        IndependenceDesk desk = Due.even(3, 2);
         Due.is("20: the first is in it", desk.exchange(0, 3, 0), -1);
         Due.is("20: the last is in it", desk.exchange(0, 6, 2), -1);
         Due.is("20: the last is not", desk.exchange(0, 3, 2), 3);
@@ -152,7 +144,7 @@ public final class SetsEdgeTest {
     }
 
     private static void exchangeOfSets() {
-        IndependenceDesk desk = even(4, 0, 2, 4);
+        IndependenceDesk desk = Due.even(4, 0, 2, 4);
         Due.is("20: may come to the empty set", desk.exchange(1, 0, 3), 0);
         Due.is("20: may come to one", desk.exchange(1, 1, 3), 0);
         Due.is("20: in place of either of two", desk.exchange(1, 3, 3), 3);
@@ -168,7 +160,7 @@ public final class SetsEdgeTest {
     private static void fullOfNothingAndOfAll() {
         int[] sizes = {1, 8, 12};
         for (int n : sizes) {
-            IndependenceDesk desk = even(n, 0, 1, n);
+            IndependenceDesk desk = Due.even(n, 0, 1, n);
             for (int i = 0; i < 2; i++) {
                 boolean light = i == 1;
                 Due.is("21: the empty set", desk.full(0, light), 0);
@@ -179,7 +171,7 @@ public final class SetsEdgeTest {
     }
 
     private static void fullOfAlike() {
-        IndependenceDesk desk = even(4, 1, 2, 3);
+        IndependenceDesk desk = Due.even(4, 1, 2, 3);
         int[] weights = {2, 3, 3, 2};
         for (int i = 0; i < 4; i++) {
             desk.weight(i, weights[i]);
@@ -198,7 +190,7 @@ public final class SetsEdgeTest {
     }
 
     private static void fullOfGreatWeights() {
-        IndependenceDesk desk = even(12, 11, 1);
+        IndependenceDesk desk = Due.even(12, 11, 1);
         for (int i = 0; i < 12; i++) {
             desk.weight(i, 1000000);
         }
@@ -215,7 +207,7 @@ public final class SetsEdgeTest {
     }
 
     private static void fullOfRulesThatThereAre() {
-        IndependenceDesk desk = even(3, 1, 2);
+        IndependenceDesk desk = Due.even(3, 1, 2);
         Due.justWithin("21: a rule, heaviest", 0, 1, -1, rule -> desk.full(rule, false));
         Due.justWithin("21: a rule, lightest", 0, 1, -1, rule -> desk.full(rule, true));
         Due.is("21: no rules", Due.desk(3).full(0, false), -1);
