@@ -132,7 +132,7 @@ public final class NaiveTest {
 
     private long[] rows() {
         int prime = new int[] {2, 3, 5, 7}[random.nextInt(4)];
-        int width = 1 + random.nextInt(prime == 2 ? 6 : prime == 3 ? 5 : 3);
+        int width = 1 + random.nextInt(n < 8 || prime == 2 ? 6 : prime == 3 ? 5 : 3);
         long[] numbers = new long[2 + n * width];
         numbers[0] = prime;
         numbers[1] = width;
